@@ -178,6 +178,7 @@ public final class PromisesTest {
     }
 
     private static void statements() {
+        Due.is("3 60 days", Due.told(new LeansAgainstReason(), "d60;"), 1);
         LeansAgainstReason x = new LeansAgainstReason();
         Due.is("3 all kinds", Due.told(x, "pp030;ph212;pv360;po745;pw209;"), 5);
         int[] tens = {0, 12, 23, 37, 42};
@@ -350,6 +351,9 @@ public final class PromisesTest {
         x.pushes(0);
         Due.is("10 up", x.setsUp(0), 1);
         Due.is("10 its load", x.purpose(0, 3), 7);
+        Due.is("10 none more", x.purpose(0, 3) + x.setsUp(0), 7);
+        LeansAgainstReason y = Due.rack("pp050;t7000;u0;");
+        Due.is("10 told of one that is up", y.purpose(0, 3), 7);
         Due.is("10 nobody", x.setsUp(1), -1);
         Due.is("10 nobody below", x.setsUp(-1), -1);
     }
@@ -544,6 +548,10 @@ public final class PromisesTest {
         Due.is("19 nothing when", y.first(1), -9);
         Due.is("19 all of 99", y.first(2), 99);
         Due.is("19 never flat", y.first(3), -9);
+        LeansAgainstReason z = Due.rack("pp099;t1000;");
+        Due.is("19 behind 99", z.first(1), 99);
+        Due.is("19 up behind 98", z.first(2), 98);
+        Due.is("19 flat behind 99", z.first(3), 99);
         Due.is("19 other", y.first(4), -2);
         Due.is("19 other below", y.first(-1), -2);
     }
@@ -564,6 +572,8 @@ public final class PromisesTest {
     private static void worst() {
         LeansAgainstReason x = Due.rack("pp099;t5100;t5110;t3000;t3010;t1190;");
         Due.is("21 the least place of two", x.worst(0), 2);
+        Due.is("21 from place 0", Due.rack("pp099;t1010;t5000;").worst(0), 1);
+        Due.is("21 two from place 0", Due.rack("pp099;t1010;t5000;").worst(1), 2);
         Due.is("21 two", x.worst(1), 2);
         x.pushes(2);
         Due.is("21 another", x.worst(0), 0);
@@ -584,6 +594,8 @@ public final class PromisesTest {
         Due.is("22 the nearest", x.gap(0), 2);
         // From thing 2: three fall (2 3 1); without 3 one.
         Due.is("22 two fewer", x.gap(2), 3);
+        // Thing 0 may be the gap of another.
+        Due.is("22 thing 0", Due.rack("pp099;t1010;t1000;t1020;").gap(1), 0);
         // From thing 3: two fall; without 1 one: only one fewer.
         Due.is("22 one fewer is none", x.gap(3), -9);
         Due.is("22 alone", x.gap(4), -9);
@@ -728,6 +740,9 @@ public final class PromisesTest {
         Due.is("29 two", x.balanced(0, 1), 2);
         x.strong(0, 99);
         Due.is("29 all up", x.balanced(0, 0), 23);
+        x.strong(0, 1);
+        x.setsUp(3);
+        Due.is("29 one alone", x.balanced(0, 0), 8);
         Due.is("29 nobody", x.balanced(2, 2), -1);
         Due.is("29 other", x.balanced(0, 2), -2);
         Due.is("29 other below", x.balanced(0, -1), -2);
@@ -783,6 +798,11 @@ public final class PromisesTest {
         LeansAgainstReason y = Due.rack("pp099;t5000;t5010;t5030;");
         // Its own place 0 has one behind it; 2 has one behind it, too.
         Due.is("32 away", y.bestPlace(0, 0), 4);
+        LeansAgainstReason z = Due.rack("pp099;", "t9000;t9020;t9040;t9060;t9080;", "t1100;t1120;t1140;t1160;t1180;");
+        // Ten things with a free place behind each: at its own place nobody is pushed.
+        Due.is("32 its own, alone", z.bestPlace(0, 0), 0);
+        Due.is("32 alone", z.bestPlace(0, 1), 1);
+        Due.is("32 a light one, ahead of heavier ones", z.bestPlace(5, 0), 1);
     }
 
     private static void chance(LeansAgainstReason x, int thing, int n, int t, long above, long below) {
@@ -809,7 +829,7 @@ public final class PromisesTest {
         LeansAgainstReason y = Due.rack("pp004;pv999;t5000;t2051;");
         // It falls on the first day either way.
         chance(y, 0, 2, 3, 0, 1);
-        // Thing 1 falls by a draught on the second day alone: 1 by 3.. but only a first-day draught spares nothing.
+        // With a draught or without, thing 0 is down behind a day; thing 1 falls by a draught on the second.
         chance(y, 1, 2, 3, 2, 3);
         LeansAgainstReason z = Due.rack("pp009;t5000;t4100;");
         // Without a draught the day's own fall takes thing 0, with one the draught does.
@@ -967,6 +987,8 @@ public final class PromisesTest {
         // both lean on the 30: 17 of it until 13 are left: one falls; 10 are left: the other stays.
         Due.is("39 one term", x.lots(1, 0, 0), 1);
         Due.is("39 one term's strengths", x.lots(1, 0, 1), 109);
+        Due.is("39 one purpose", Due.rack("pv999;t9000;t8190;").lots(3, 5, 0), 6);
+        Due.is("39 one purpose's strengths", Due.rack("pv999;t9000;t8190;").lots(3, 5, 1), 297);
         Due.is("39 not changed", x.thing(0, 2), 0);
         Due.is("39 no day", x.count(2), 0);
         LeansAgainstReason y = Due.rack("pp030;ph212;pv360;po745;pw209;",
