@@ -204,8 +204,8 @@ public final class LeansAgainstReason {
     }
 
     public int days(int n) {
+        // On the last day no number is low enough; one below 1 is refused as that all the same.
         int off = outside(n, 1, Math.min(MOST_DAYS, LAST_DAY - now.day));
-        // On the last day no number is low enough, but a number below 1 is refused as that first.
         if (off != 0) {
             return refuse(off);
         }
