@@ -168,6 +168,8 @@ final class EdgesOfMind extends Sentences {
         is(y.first(0), 3);
         y.moves(3, 19);
         is(y.first(0), 0);
+        is(rack("pp003;t1190;").first(0), 0);
+        is(rack("pp003;t1190;").first(1), 3);
         is(rack("pp099;t1190;").first(1), 99);
         is(rack("pp099;t1190;").first(0), 0);
         is(rack("ph199;t1190;").first(0), -9);
@@ -282,6 +284,7 @@ final class EdgesOfMind extends Sentences {
         is(x.longest(0), 2);
         is(x.longest(1), 0);
         x.pushes(1);
+        is(x.longest(0), 2);
         is(x.longest(1), 3);
         x.pushes(3);
         is(x.longest(1), 18);
@@ -375,6 +378,9 @@ final class EdgesOfMind extends Sentences {
         is(rack("pv999;t1000;").mended(99), -9);
         is(rack("pv910;pv910;t9000;t9021;").mended(99), 0);
         is(rack("pp099;t1000;").mended(98), -9);
+        // 99 and no more: behind 99 days nothing of it is left.
+        is(rack("pp001;t1000;").mended(98), 0);
+        is(rack("pp001;t1000;").mended(99), -9);
         says("KEY: the PURPOSE that, with STRENGTH 0 now, makes fewest UP behind n DAYS, fewer than else, of several the "
             + "least; -9.");
         is(none().key(0), -9);

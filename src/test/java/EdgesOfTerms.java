@@ -333,6 +333,11 @@ final class EdgesOfTerms extends Sentences {
         says("a PLACE that is taken,");
         is(told(none(), ahead + "t1000;"), -2012);
         is(told(none(), ahead + "t1190;t1190;"), -2018);
+        LeansAgainstReason nine = rack("pp099;", TEN.substring(6));
+        for (int place = 2; place <= 18; place += 2) {
+            is(told(nine, "t1" + (place < 10 ? "0" : "") + place + "0;"), -2000);
+        }
+        is(told(nine, "t1000;"), 1);
         LeansAgainstReason y = rack(ahead);
         y.pushes(0);
         is(told(y, "t1000;"), -2000);
