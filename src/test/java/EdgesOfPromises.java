@@ -505,6 +505,9 @@ final class EdgesOfPromises extends Sentences {
         x.strong(2, 9);
         is(x.bestLeans(0, 1, 2, 9, 0), 234);
         x.strong(2, 0);
+        x.strong(4, 0);
+        is(x.bestLeans(0, 1, 2, 9, 0), 3);
+        is(x.bestLeans(0, 1, 2, 9, 1), 1);
         x.strong(3, 0);
         x.strong(4, 99);
         is(x.bestLeans(0, 1, 2, 20, 0), 444);
