@@ -444,7 +444,7 @@ public final class LeansAgainstReason {
 
     public int row(int v) {
         int off = outside(v, 0, 99);
-        if (off == 0 && inRow >= MOST_IN_ROW) {
+        if (off == 0 && (inRow < 0 || inRow >= MOST_IN_ROW)) {
             off = ROOM;
         }
         if (off != 0) {
@@ -668,7 +668,7 @@ public final class LeansAgainstReason {
         // -- telling: each answers whether it could be so --
 
         boolean addPurpose(int newKind, int newFigure, int newStrength) {
-            if (purposes >= MOST_PURPOSES) {
+            if (purposes < 0 || purposes >= MOST_PURPOSES) {
                 return false;
             }
             kind[purposes] = newKind;
@@ -680,10 +680,10 @@ public final class LeansAgainstReason {
         }
 
         boolean addThing(int newWeight, int where, int p) {
-            if (things >= MOST_THINGS || newWeight < 1 || !isPurpose(p) || !isFreeFor(NONE, where)) {
+            int t = things;
+            if (t < 0 || t >= MOST_THINGS || newWeight < 1 || !isPurpose(p) || !isFreeFor(NONE, where)) {
                 return false;
             }
-            int t = things;
             things++;
             weight[t] = newWeight;
             place[t] = where;

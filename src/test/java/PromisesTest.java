@@ -51,7 +51,19 @@ public final class PromisesTest {
         image();
         on();
         count();
+        readme();
         Due.end("PromisesTest");
+    }
+
+    // README.md's example
+    private static void readme() {
+        LeansAgainstReason x = Due.rack("pp030;t5000;t4010;");
+        Due.is("spare", x.spare(0), 21);
+        Due.is("falls", x.falls(0), 22);
+        Due.is("allThen", x.allThen(22), 0);
+        Due.is("days", x.days(21), 2);
+        Due.is("no thing 3", x.upThen(3, 1), -1);
+        Due.is("refusals -1", x.count(11), 1);
     }
 
     // Promise 1
